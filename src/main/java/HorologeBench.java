@@ -31,8 +31,6 @@ public final class HorologeBench {
     private int crownPlace;
     private boolean hasSurprise;
 
-    // ---- trains
-
     public HorologeBench() {
         parts = new Parts();
         drive = new Drive();
@@ -44,6 +42,8 @@ public final class HorologeBench {
         crownPlace = NO_CROWN;
         hasSurprise = true;
     }
+
+    // ---- trains
 
     public int stage(int teeth, int leaves) throws IllegalArgumentException, NoSuchElementException {
         needRange(teeth, 1, MOST_OF_RATIO);
@@ -1141,8 +1141,8 @@ public final class HorologeBench {
             if (days == 0) {
                 return day;
             }
-            int yearAhead = month == 1 ? (year + 3) % 4 : year;
-            return day > 1 ? day - 1 : lastDay(monthBeside(-1), yearAhead);
+            // Only February asks for the year, and it lies in the year of the month behind it.
+            return day > 1 ? day - 1 : lastDay(monthBeside(-1), year);
         }
 
         int monthBeside(int days) {

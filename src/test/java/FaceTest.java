@@ -46,6 +46,11 @@ public final class FaceTest {
         for (Field field : bench.getDeclaredFields()) {
             Due.isTrue("face: private " + field, Modifier.isPrivate(field.getModifiers()));
         }
+        for (Class<?> inside : bench.getDeclaredClasses()) {
+            for (Method method : inside.getDeclaredMethods()) {
+                privateNames.add(method.getName());
+            }
+        }
         privateNames.retainAll(publicNames);
         Due.isTrue("face: no private method has a public name", privateNames.isEmpty());
         Due.is("face: public and final", bench.getModifiers(), Modifier.PUBLIC | Modifier.FINAL);

@@ -208,6 +208,16 @@ public final class GoingTest {
         bench.setPosition(60);
         Due.is("21: the rest of 57 grows", bench.pass(25), 1500);
         Due.is("21: and gives a second", bench.pass(1), 61);
+        HorologeBench even = new HorologeBench();
+        even.setFusee(true);
+        Watches.complete(even).wind(8);
+        even.setPosition(57);
+        Due.is("21: at 60, 24 minutes give a second", even.pass(23), 23 * 60);
+        Due.is("21: a whole one at once", even.pass(1), 61);
+        Due.is("21: nothing is left", even.pass(23), 23 * 60);
+        even.setPosition(-57);
+        Due.is("21: at -54, the rest of 1380 is lost first", even.pass(25), 25 * 60);
+        Due.is("21: rounded down", even.pass(1), 59);
         HorologeBench slow = Watches.wound(2);
         Due.is("21: a rate less than 0 loses at once", slow.pass(1), 59);
         HorologeBench running = Watches.wound(1);

@@ -62,7 +62,8 @@ public final class MoonsTest {
     private static void setMoonAge() {
         HorologeBench bench = new HorologeBench();
         Due.is("45: 0 at first", bench.setMoonAge(943), 0);
-        Due.is("45: before", bench.setMoonAge(5), 943);
+        Due.is("45: before", bench.setMoonAge(0), 943);
+        Due.is("45: 0 again", bench.setMoonAge(5), 0);
         int[] wrong = {-1, 944, FAR[0], FAR[1]};
         for (int age : wrong) {
             Due.throwing("45: age " + age, IllegalArgumentException.class, () -> bench.setMoonAge(age));

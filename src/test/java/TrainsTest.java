@@ -32,6 +32,7 @@ public final class TrainsTest {
         Due.is("2: the fewest teeth", bench.stage(12, 1), 72006);
         Due.is("2: the greatest ratio", bench.stage(20, 1), 120006);
         Due.is("2: the pinion sets the size", bench.stage(1000000, 1000000), 8008);
+        Due.is("2: from 1 on", bench.stage(1, 2), 8016);
         Due.is("2: the least ratio", bench.stage(2, 5), 8020);
         Due.is("2: shortened first", bench.stage(999999, 999999 / 9), 54006);
         Due.is("2: a pinion with a great prime", bench.stage(113, 19), 113019);
@@ -90,6 +91,7 @@ public final class TrainsTest {
         Due.is("61: the greatest", bench.trainWithin(400, 1, 252), 252);
         Due.is("61: the smallest", bench.trainWithin(16, 9, 28), 28);
         Due.is("61: not the first train", bench.trainWithin(1, 1, 300), 32);
+        Due.is("61: the flattest", bench.trainWithin(4, 25, 300), 56);
         Due.throwing("61: a space of 1", NoSuchElementException.class, () -> bench.trainWithin(1, 1, 1));
         Due.throwing("61: no train at all", NoSuchElementException.class, () -> bench.trainWithin(401, 1, 300));
         int[] wrong = {0, -1, 1000001, Integer.MIN_VALUE, Integer.MAX_VALUE};
