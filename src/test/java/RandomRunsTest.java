@@ -1,8 +1,6 @@
 import java.lang.reflect.InvocationTargetException;
 import java.lang.reflect.Method;
-import java.util.ArrayList;
 import java.util.Arrays;
-import java.util.Comparator;
 import java.util.List;
 import java.util.Random;
 
@@ -24,13 +22,7 @@ public final class RandomRunsTest {
     private static Random random;
 
     public static void main(String[] args) throws Exception {
-        List<Method> methods = new ArrayList<>();
-        for (Method method : HorologeBench.class.getDeclaredMethods()) {
-            if (java.lang.reflect.Modifier.isPublic(method.getModifiers())) {
-                methods.add(method);
-            }
-        }
-        methods.sort(Comparator.comparing(Method::getName));
+        List<Method> methods = Calls.all();
         for (int run = 0; run < RUNS; run++) {
             if (!goRun(run, methods)) {
                 break;
@@ -48,11 +40,11 @@ public final class RandomRunsTest {
         for (int call = 0; call < CALLS; call++) {
             Method method = methods.get(random.nextInt(methods.size()));
             if (isArborRun && random.nextInt(4) > 0) {
-                method = named(methods, "addArbor", "mesh", "mesh", "fasten", "differ", "loosen", "addStar",
-                        "turn", "turn", "turn");
+                method = Calls.drawnOf(methods, random, "addArbor", "mesh", "mesh", "fasten", "differ",
+                        "loosen", "addStar", "turn", "turn", "turn");
             } else if (random.nextInt(3) == 0) {
-                method = named(methods, "putIn", "putIn", "putIn", "wind", "pass", "pass", "setHands", "push",
-                        "crown", "setFault", "takeOut");
+                method = Calls.drawnOf(methods, random, "putIn", "putIn", "putIn", "wind", "pass", "pass",
+                        "setHands", "push", "crown", "setFault", "takeOut");
             }
             // The plain search for a train is too slow to be asked often.
             if (method.getName().startsWith("train") && random.nextInt(6) > 0) {
@@ -78,16 +70,6 @@ public final class RandomRunsTest {
         }
         Due.isTrue("run " + run, true);
         return true;
-    }
-
-    private static Method named(List<Method> methods, String... names) {
-        String name = names[random.nextInt(names.length)];
-        for (Method method : methods) {
-            if (method.getName().equals(name)) {
-                return method;
-            }
-        }
-        throw new IllegalStateException(name);
     }
 
     private static Method twin(Method method) throws Exception {
